@@ -256,6 +256,14 @@ public final class PromisesTest {
         hour(20) = 0
         of(0, 3) = 10
 
+        promise 14: at a warmth of 4 one cell alone
+        name(12, 9)
+        hour(9)
+        call(0)
+        hour(1)
+        is(2) = 4
+        of(0, 3) = 1
+
         promise 14: at a stone a draw by 10 below breaks halves it, what isn't whole upwards
         name(12345, 9)
         read breaks 9; = 0
@@ -464,6 +472,14 @@ public final class PromisesTest {
         fault(1) = -1
         about(2) = 4
 
+        promise 7: three hundred tokens
+        15 times feed(993737531, 993737531, 993737531, 993737531, 993737531)
+        about(7) = 300
+        text() = -1
+        fault(0) = 1
+        fault(1) = 0
+        about(7) = 0
+
         promise 8: the fault of the latest text that was read
         fault(0) = -1
         fault(1) = -1
@@ -597,6 +613,48 @@ public final class PromisesTest {
         read name 10 = -1
         fault(0) = 7
 
+        promise 8: nothing behind the tape's end is read
+        tape melts 12;
+        end(7)
+        text() = -1
+        fault(1) = 7
+        tape melts hours;
+        end(10)
+        text() = -1
+        fault(1) = 10
+        tape melts if 1<=2
+        end(11)
+        text() = -1
+        fault(1) = 11
+        read hourA 1; = -1
+        fault(1) = 0
+        read hourZ 1; = -1
+        fault(1) = 0
+        read melts if 1)2 then 3 else 4 end; = -1
+        fault(0) = 1
+        fault(1) = 10
+        read melts ice ice ice ice ice ice ice ice ice 1; = -1
+        fault(0) = 3
+        fault(1) = 38
+        read stand 5 at 1; = -1
+        fault(0) = 2
+        read stand 0 at 10; = -1
+        fault(0) = 2
+        fault(1) = 11
+        read family 1 at 10; = -1
+        fault(0) = 2
+        read name 1 in 10; = -1
+        fault(0) = 2
+        read lay 10; = -1
+        fault(0) = 2
+        read take 10; = -1
+        fault(0) = 2
+        read call 6; = -1
+        fault(0) = 2
+        read sink 6; = -1
+        fault(0) = 2
+        read name 1 in 0;family 1 at 0;stand 0 at 0;call 0;sink 0;lay 0;take 0; = 0
+
         promise 9: the text that rules
         name(12, 3)
         by(0) = false
@@ -654,6 +712,13 @@ public final class PromisesTest {
         played(1) = 0
         read sink 0; = 2
         played(2) = 0
+
+        promise 15: nothing of a text with a fault is played
+        read lay 5;lay 6;lay 7;lay 8; x = -1
+        read hour 1; = 0
+        played(0) = -1
+        is(0) = 1
+        is(3) = 0
 
         promise 15: of so many hours those that can pass do
         166 times hour(60)
@@ -770,6 +835,21 @@ public final class PromisesTest {
         by(3)
         law(0, 0, 0) = 1
 
+        promise 20: the bounds to the one
+        name(1, 0)
+        read melts 9999*9999-9999*100-50; = 0
+        by(0)
+        law(0, 0, 0) = 50
+        read melts -9999*9999+9999*100+50; = 1
+        by(1)
+        law(0, 0, 0) = -50
+
+        promise 7, 20: a tape of three hundred bytes
+        name(1, 0)
+        read melts 1+1-1+1-1+1-1+1-1+1-1+1-1+1-1+1-1+1-1+1-1+1-1+1-1+1-1+1-1+1-1+1-1+1-1+1-1+1-1+1-1+1-1+1-1+1-1+1-1+1-1+1-1+1-1+1-1+1-1+1-1+1-1+1-1+1-1+1-1+1-1+1-1+1-1+1-1+1-1+1-1+1-1+1-1+1-1+1-1+1-1+1-1+1-1+1-1+1-1+1-1+1-1+1-1+1-1+1-1+1-1+1-1+1-1+1-1+1-1+1-1+1-1+1-1+1-1+1-1+1-1+1-1+1-1+1-1+1-1+1-1+1-1+1-1+1-1; = 0
+        by(0)
+        law(0, 0, 0) = 1
+
         promise 20: digits
         name(98765, 0)
         read melts digit 0 of sounds*10+digit 4 of sounds; = 0
@@ -784,6 +864,20 @@ public final class PromisesTest {
         read melts digit 6 of (9999*9999)+digit 2 of 1234; = 3
         by(3)
         law(0, 0, 0) = 3
+        back()
+        name(98765, 0)
+        read melts digit 2 of sounds*10+digit 3 of sounds; = 0
+        by(0)
+        law(0, 0, 0) = 78
+        read melts digit 5 of (9999*99)*10+digit 6 of (9999*9999); = 1
+        by(1)
+        law(0, 0, 0) = 91
+        read melts digit 2 of 9199+digit 3 of 1999+digit 4 of 9999; = 2
+        by(2)
+        law(0, 0, 0) = 2
+        read melts digit 7 of (9999*9999); = 3
+        by(3)
+        law(0, 0, 0) = 0
 
         promise 20: whether a name is in the ice
         name(1, 0)
@@ -810,6 +904,14 @@ public final class PromisesTest {
         read melts if not not 1=2 or 1=1 and 1=2 then 1 else layer end; = 3
         by(3)
         law(0, 0, 0) = 5
+        back()
+        name(1, 5)
+        read melts if not 1=2 then 7 else 8 end; = 0
+        by(0)
+        law(0, 0, 0) = 7
+        read melts if not 1=1 then 7 else 8 end; = 1
+        by(1)
+        law(0, 0, 0) = 8
         """;
 
     private static final String ASKED = """
@@ -914,6 +1016,15 @@ public final class PromisesTest {
         call(2)
         hour(1) = 2
         ofFamily(0, 2) = 5
+        family(1, 2)
+        read claims house; = 0
+        by(0)
+        call(1)
+        hour(1) = 1
+        of(1, 3) = 21
+        ofFamily(1, 2) = 2
+        book(2, 1) = 1
+        book(2, 3) = 1
 
         promise 21: what is
         is(5) = -2
@@ -975,6 +1086,7 @@ public final class PromisesTest {
         played(1)
         book(-1, 0) = 30
         book(0, 0) = 1
+        book(28, 0) = 29
         book(29, 0) = 30
         undo()
         book(-1, 0) = 30
@@ -1102,6 +1214,31 @@ public final class PromisesTest {
         wants(0, 1, 5)
         stable(0, true) = 1
 
+        promise 26, 27, 29: families and names that aren't there neither ask nor are asked
+        name(1, 1)
+        family(1, 1)
+        wants(0, 0, 1)
+        wants(1, 0, 9)
+        favours(0, 1, 9)
+        wants(0, 1, 9)
+        favours(1, 0, 9)
+        stable(0, true) = 0
+        stable(0, false) = 0
+        stables() = 1
+        rests() = 1
+        give(0, 0)
+        rests() = 0
+
+        promise 27: a family that has none stands in no one's way
+        name(1, 1)
+        family(1, 1)
+        family(1, 1)
+        wants(1, 0, 1)
+        stable(0, true) = -1
+        stable(1, true) = 0
+        stable(1, false) = 0
+        stables() = 1
+
         promise 28: given
         give(0, 0) = false
         name(1, 1)
@@ -1216,6 +1353,7 @@ public final class PromisesTest {
         clear(0, 0, 9, 5) = 16
         clear(0, 0, 9, 4) = 8
         clear(0, 0, 9, 3) = 0
+        clear(0, 0, 9, 1) = 0
         clear(0, 2, 9, 5) = 8
         clear(0, 4, 9, 10) = 0
         clear(0, 0, 9, 0) = -1
@@ -1302,6 +1440,25 @@ public final class PromisesTest {
         half(99999)
         joins(-1) = 1
 
+        promise 34: four pairs, and longer halves
+        name(91111, 1)
+        name(12, 1)
+        half(1111)
+        half(9)
+        half(2)
+        half(1)
+        half(1)
+        half(2)
+        joins(-1) = 3
+        half(9)
+        half(1111)
+        joins(-1) = 4
+        joins(0) = 100
+        joins(1) = 321
+        joins(2) = 451
+        joins(3) = 670
+        joins(4) = -2
+
         promise 35: layers that hold some names
         layers(0) = 0
         layers(1) = -1
@@ -1374,6 +1531,9 @@ public final class PromisesTest {
         veto() = 0
         coalitions() = 0
         family(4, 1)
+        quota(4)
+        power(0, false) = 1
+        power(0, true) = 1
         family(3, 1)
         family(2, 1)
         family(1, 1)
@@ -1591,6 +1751,33 @@ public final class PromisesTest {
         fault(1) = -1
         undo() = 0
         undo() = -1
+
+        promise 49, 50: the image holds the steps that can be taken back
+        family(2, 2)
+        family(2, 2)
+        name(1, 9)
+        name(2, 9)
+        wants(1, 1, 5)
+        wants(4, 5, 5)
+        hour(40)
+        stand(1, 3)
+        image() = 40
+        hour(5)
+        stand(1, 4)
+        wants(1, 1, 0)
+        back() = 40
+        gladdest(1) = 1
+        about(4) = 30
+        undo() = 29
+        ofFamily(1, 1) = 2
+        28 times undo()
+        is(0) = 12
+        undo() = 0
+        is(0) = 11
+        undo() = -1
+        back() = 40
+        about(4) = 30
+        ofFamily(1, 1) = 3
 
         promise 51: about
         about(8) = -2
