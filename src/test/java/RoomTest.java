@@ -5,6 +5,9 @@ public final class RoomTest {
     private static final com.sun.management.ThreadMXBean BEAN =
         (com.sun.management.ThreadMXBean) ManagementFactory.getThreadMXBean();
     private static final long GREATEST_OBJECT = 100_000;
+    private static final int ROUNDS = 200;
+    /** Less than the smallest object once a round, more than the machine may need for itself. */
+    private static final long SLACK = 2_000;
 
     private RoomTest() {
     }
@@ -80,7 +83,7 @@ public final class RoomTest {
         askAll(x);
         start = made();
         long sum = 0;
-        for (int i = 0; i < 5; i++) {
+        for (int i = 0; i < ROUNDS; i++) {
             callAll(x, good, goodText.length(), bad, badText.length());
             sum += askAll(x);
         }
@@ -89,7 +92,7 @@ public final class RoomTest {
         long reading = made() - start;
         calls -= reading;
         System.out.println("an object takes " + object + " bytes, calls take " + calls + " (" + sum + ")");
-        if (object > GREATEST_OBJECT || calls > 0) {
+        if (object > GREATEST_OBJECT || calls > SLACK) {
             System.exit(1);
         }
     }
