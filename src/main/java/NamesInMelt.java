@@ -20,6 +20,7 @@ public final class NamesInMelt {
     private static final int GREATEST_QUOTA = 99;
     private static final int FIRST_QUOTA = 10;
     private static final int GREATEST_SOUNDS = 99999;
+    private static final int MOST_SOUNDS = 5;
     private static final int LAST_HOUR = 9999;
     private static final int HOURS_AT_ONCE = 60;
     private static final int LINES = 30;
@@ -859,7 +860,7 @@ public final class NamesInMelt {
             return 0;
         }
         int count = 0;
-        for (int rest = sounds; rest > 0; rest /= 10) {
+        for (int rest = sounds; rest > 0 && count < MOST_SOUNDS; rest /= 10) {
             if (rest % 10 == 0) {
                 return 0;
             }
@@ -880,7 +881,7 @@ public final class NamesInMelt {
         int shared = 0;
         int a = one;
         int b = other;
-        while (a > 0 && b > 0 && a % 10 == b % 10) {
+        while (shared < MOST_SOUNDS && a > 0 && b > 0 && a % 10 == b % 10) {
             shared++;
             a /= 10;
             b /= 10;
@@ -1911,7 +1912,7 @@ public final class NamesInMelt {
 
         private int jointOf(int one, int other) {
             long joined = one;
-            for (int rest = other; rest > 0; rest /= 10) {
+            for (int shifted = countSounds(other); shifted > 0; shifted--) {
                 joined *= 10;
             }
             joined += other;

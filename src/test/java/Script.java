@@ -8,6 +8,8 @@ import java.util.TreeSet;
 /**
  * Runs of calls, told as lines.
  *   promise 14: what the run shows    a new object, whose answers speak of that promise (or several: 14, 22)
+ *   says 14: a sentence               a new object, whose answers speak of that sentence of the promise's section
+ *   says terms: a sentence            the same, of the document's terms
  *   hour(2) = 1                       a call with the answer that is due (true and false for booleans)
  *   call(0)                           a call whose answer doesn't matter here
  *   tape melts 1;                     the tape has just these bytes (\n, \t, \0 and \xHH stand for single bytes)
@@ -16,16 +18,23 @@ import java.util.TreeSet;
  */
 final class Script {
     final Set<Integer> promises = new TreeSet<>();
+    /** The sentences that runs speak of, in their order: the section, a colon, a blank, the words. */
+    final List<String> sentences = new ArrayList<>();
     int checks;
     int wrong;
+    private static final int MOST_CALLS = 512;
     private NamesInMelt object = new NamesInMelt();
     private String title = "";
+    private int calls;
 
     void run(String lines) throws Exception {
         for (String line : lines.split("\n")) {
             line = line.strip();
             if (line.startsWith("promise ")) {
                 open(line);
+            } else if (line.startsWith("says ")) {
+                begin(line);
+                sentences.add(line.substring(5));
             } else if (line.startsWith("tape ")) {
                 tape(line.substring(5));
             } else if (line.startsWith("read ")) {
@@ -34,7 +43,7 @@ final class Script {
                 call("text()" + line.substring(cut), line);
             } else if (line.matches("\\d+ times .*")) {
                 for (int i = Integer.parseInt(line.substring(0, line.indexOf(' '))); i > 0; i--) {
-                    call(line.substring(line.indexOf("times ") + 6), line);
+                    run(line.substring(line.indexOf("times ") + 6));
                 }
             } else if (!line.isEmpty()) {
                 call(line, line);
@@ -42,9 +51,23 @@ final class Script {
         }
     }
 
-    private void open(String line) {
+    private void begin(String line) {
         title = line;
         object = new NamesInMelt();
+        calls = 0;
+    }
+
+    /** What calls answer behind the 512th is free, so no run may speak of it. */
+    private void count(int more) {
+        calls += more;
+        if (calls > MOST_CALLS && calls - more <= MOST_CALLS) {
+            wrong++;
+            System.out.println(title + ": more than " + MOST_CALLS + " calls");
+        }
+    }
+
+    private void open(String line) {
+        begin(line);
         for (String number : line.substring(8, line.indexOf(':')).split(",")) {
             promises.add(Integer.parseInt(number.strip()));
         }
@@ -76,6 +99,7 @@ final class Script {
             }
         }
         object.end(0);
+        count(2 + (bytes.size() + 19) / 20);
         int length = bytes.size();
         while (bytes.size() % 20 != 0) {
             bytes.add(0);
@@ -103,6 +127,7 @@ final class Script {
         for (int i = 0; i < words.length; i++) {
             args[i] = value(words[i]);
         }
+        count(1);
         Object got = invoke(name, args);
         int cut = told.indexOf(" = ", close);
         if (cut < 0) {
