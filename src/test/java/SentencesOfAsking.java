@@ -159,6 +159,25 @@ final class SentencesOfAsking {
         stable(2, false) = 1
         stables() = 1
 
+        says terms: A way gives each FAMILY one NAME it wants at most, no NAME to two;
+        2 times name(1, 9)
+        2 times family(1, 1)
+        wants(0, 1, 5)
+        wants(1, 0, 6)
+        wants(1, 1, 5)
+        favours(0, 0, 2)
+        favours(0, 1, 1)
+        favours(1, 0, 1)
+        favours(1, 1, 2)
+        give(0, 0)
+        give(1, 1)
+        rests() = 0
+        stables() = 1
+        stable(0, true) = 1
+        stable(1, true) = 0
+        stable(0, false) = 1
+        stable(1, false) = 0
+
         says terms: a pair would rather, if the FAMILY wants the NAME more than (by number, then the lowest) what it has, or has none,
         name(1, 9)
         name(1, 9)
