@@ -487,7 +487,7 @@ public final class NamesInMelt {
             return NONE;
         }
         int best = NONE;
-        for (int name = 0; name < water.names; name++) {
+        for (int name = 0; name < water.names && name < NAMES; name++) {
             if (pairing.isWanted(family, name) && pairing.likesMore(true, family, name, best)) {
                 best = name;
             }
@@ -547,7 +547,7 @@ public final class NamesInMelt {
             return NONE;
         }
         int bits = 0;
-        for (int name = 0; name < water.names; name++) {
+        for (int name = 0; name < water.names && name < NAMES; name++) {
             if (hasBit(names, name)) {
                 bits |= 1 << valley.layer[name];
             }
@@ -568,7 +568,7 @@ public final class NamesInMelt {
         }
         int best = NONE;
         int most = 0;
-        for (int other = 0; other < water.names; other++) {
+        for (int other = 0; other < water.names && other < NAMES; other++) {
             int shared = other == name ? 0 : countShared(valley.sounds[name], valley.sounds[other]);
             if (shared > most) {
                 most = shared;
@@ -588,7 +588,7 @@ public final class NamesInMelt {
 
     public int power(int family, boolean low) {
         int families = water.families;
-        if (!isFamily(family) || families >= FACTORIALS.length) {
+        if (!isFamily(family) || families < 0 || families >= FACTORIALS.length) {
             return NONE;
         }
         int upper = nets.countPivots(family);
@@ -671,7 +671,7 @@ public final class NamesInMelt {
     public int next() {
         int best = NONE;
         int farthest = NONE;
-        for (int name = 0; name < water.names; name++) {
+        for (int name = 0; name < water.names && name < NAMES; name++) {
             int place = water.place[name];
             if (place < MILLED && place > farthest) {
                 farthest = place;
@@ -951,8 +951,10 @@ public final class NamesInMelt {
                 System.arraycopy(lines, 1, lines, 0, LINES - 1);
                 written = LINES - 1;
             }
-            lines[written] = hour * 1000 + name * 100 + what * 10 + where;
-            written++;
+            if (written >= 0) {
+                lines[written] = hour * 1000 + name * 100 + what * 10 + where;
+                written++;
+            }
         }
 
         boolean isFrozen(int name) {
@@ -996,7 +998,7 @@ public final class NamesInMelt {
                 first = (first + 1) % STEPS;
                 count = STEPS - 1;
             }
-            Water slot = kept[(first + count) % STEPS];
+            Water slot = slotOf(count);
             if (slot != null) {
                 slot.become(water);
             }
@@ -1009,12 +1011,18 @@ public final class NamesInMelt {
                 return null;
             }
             count--;
-            return kept[(first + count) % STEPS];
+            return slotOf(count);
+        }
+
+        /** Where the i-th STEP is kept, from the eldest on; null if there is no such place. */
+        private Water slotOf(int i) {
+            int at = (first + i) % STEPS;
+            return at >= 0 ? kept[at] : null;
         }
 
         void become(Steps other) {
             for (int i = 0; i < other.count && i < STEPS; i++) {
-                Water from = other.kept[(other.first + i) % STEPS];
+                Water from = other.slotOf(i);
                 Water to = kept[i];
                 if (from != null && to != null) {
                     to.become(from);
@@ -1119,7 +1127,7 @@ public final class NamesInMelt {
         }
 
         void addClause(int word, int a, int b) {
-            if (clauses < CLAUSES) {
+            if (clauses >= 0 && clauses < CLAUSES) {
                 kind[clauses] = word;
                 first[clauses] = a;
                 second[clauses] = b;
@@ -1130,7 +1138,7 @@ public final class NamesInMelt {
         /** Answers where the instruction stands, so that a jump can be aimed when its aim is known. */
         int emit(int what, int with) {
             int at = length;
-            if (at < CODE) {
+            if (at >= 0 && at < CODE) {
                 op[at] = what;
                 arg[at] = with;
                 length++;
@@ -1229,7 +1237,8 @@ public final class NamesInMelt {
         /** Whether the signs of WORDS from start on, ahead of stop, stand on the tape from there on. */
         private boolean spells(int start, int stop, int from) {
             for (int i = start; i < stop; i++) {
-                if (WORDS.charAt(i) != tape[from + i - start]) {
+                int at = from + i - start;
+                if (at < 0 || at >= tape.length || WORDS.charAt(i) != tape[at]) {
                     return false;
                 }
             }
@@ -1239,7 +1248,7 @@ public final class NamesInMelt {
         /** All that is too great is the same: one above the greatest NUMBER. */
         private int valueOf(int from, int stop) {
             int value = 0;
-            for (int i = from; i < stop; i++) {
+            for (int i = from; i >= 0 && i < stop && i < tape.length; i++) {
                 value = Math.min(value * 10 + tape[i] - '0', GREATEST_NUMBER + 1);
             }
             return value;
@@ -1265,7 +1274,7 @@ public final class NamesInMelt {
         }
 
         private void advance() {
-            if (token != FINISH && current < TAPE) {
+            if (token != FINISH && current >= 0 && current < TAPE) {
                 current++;
                 token = tokens[current];
             }
@@ -1329,7 +1338,7 @@ public final class NamesInMelt {
                 refuse(MISPLACED);
                 return least;
             }
-            int taken = values[current];
+            int taken = valueHere();
             if (taken < least || taken > greatest) {
                 refuse(OUT_OF_RANGE);
                 return least;
@@ -1338,8 +1347,12 @@ public final class NamesInMelt {
             return taken;
         }
 
+        private int valueHere() {
+            return current >= 0 && current <= TAPE ? values[current] : 0;
+        }
+
         private int takeSounds() {
-            int sounds = values[current];
+            int sounds = valueHere();
             if (token == NUMBER && sounds >= 1 && sounds <= GREATEST_NUMBER && countSounds(sounds) == 0) {
                 refuse(SILENT_SOUND);
             }
@@ -1699,7 +1712,7 @@ public final class NamesInMelt {
         }
 
         boolean isWanted(int family, int name) {
-            return valley.want[family * NAMES + name] > 0;
+            return wantOf(family, name) > 0;
         }
 
         /** Whether one (a FAMILY, or a NAME) likes a more than b; b may be NONE. */
@@ -1707,9 +1720,17 @@ public final class NamesInMelt {
             if (b == NONE) {
                 return true;
             }
-            int likesA = isFamily ? valley.want[one * NAMES + a] : valley.favour[one * FAMILIES + a];
-            int likesB = isFamily ? valley.want[one * NAMES + b] : valley.favour[one * FAMILIES + b];
+            int likesA = isFamily ? wantOf(one, a) : favourOf(one, a);
+            int likesB = isFamily ? wantOf(one, b) : favourOf(one, b);
             return likesA > likesB || likesA == likesB && a < b;
+        }
+
+        private int wantOf(int family, int name) {
+            return couldLike(family, name, 0) ? valley.want[family * NAMES + name] : 0;
+        }
+
+        private int favourOf(int name, int family) {
+            return couldLike(family, name, 0) ? valley.favour[name * FAMILIES + family] : 0;
         }
 
         int ownerOf(int[] given, int name) {
@@ -1723,7 +1744,7 @@ public final class NamesInMelt {
 
         int countRather(int[] given) {
             int pairs = 0;
-            for (int name = 0; name < valley.water.names; name++) {
+            for (int name = 0; name < valley.water.names && name < NAMES; name++) {
                 int owner = ownerOf(given, name);
                 for (int family = 0; family < valley.water.families && family < given.length; family++) {
                     if (isWanted(family, name) && likesMore(true, family, name, given[family])
@@ -1740,7 +1761,7 @@ public final class NamesInMelt {
             Arrays.fill(familyHas, NONE);
             Arrays.fill(nameHas, NONE);
             Arrays.fill(asked, 0);
-            int askers = theirs ? valley.water.families : valley.water.names;
+            int askers = theirs ? Math.min(valley.water.families, FAMILIES) : Math.min(valley.water.names, NAMES);
             int[] has = theirs ? familyHas : nameHas;
             int[] had = theirs ? nameHas : familyHas;
             for (int first = 0; first < askers; first++) {
@@ -1765,7 +1786,7 @@ public final class NamesInMelt {
         }
 
         private int bestToAsk(boolean theirs, int asker) {
-            int others = theirs ? valley.water.names : valley.water.families;
+            int others = theirs ? Math.min(valley.water.names, NAMES) : Math.min(valley.water.families, FAMILIES);
             int wish = NONE;
             for (int other = 0; other < others; other++) {
                 boolean wanted = theirs ? isWanted(asker, other) : isWanted(other, asker);
@@ -1798,7 +1819,7 @@ public final class NamesInMelt {
                 return countFrom(family + 1, taken);
             }
             int ways = 0;
-            for (int name = 0; name < valley.water.names; name++) {
+            for (int name = 0; name < valley.water.names && name < NAMES; name++) {
                 boolean between = !likesMore(true, family, name, best[family])
                     && !likesMore(true, family, worst[family], name);
                 if (between && !hasBit(taken, name)) {
@@ -1963,7 +1984,7 @@ public final class NamesInMelt {
             for (int ahead = 0; ahead < 1 << families; ahead++) {
                 if (!hasBit(ahead, family) && !reachesQuota(ahead) && reachesQuota(ahead | 1 << family)) {
                     int before = Integer.bitCount(ahead);
-                    orders += FACTORIALS[before] * FACTORIALS[families - 1 - before];
+                    orders += before < families ? FACTORIALS[before] * FACTORIALS[families - 1 - before] : 0;
                 }
             }
             return orders;

@@ -145,7 +145,7 @@ final class Script {
         if (word.equals("true") || word.equals("false")) {
             return Boolean.valueOf(word);
         }
-        return Integer.valueOf(word);
+        return Integer.decode(word);
     }
 
     private Object invoke(String name, Object[] args) throws Exception {
