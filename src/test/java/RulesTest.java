@@ -197,6 +197,18 @@ public final class RulesTest {
             return super.visitMethodInvocation(tree, none);
         }
 
+        /** A loop over what was told so far that uses an index shows the row's length too. */
+        @Override
+        public Void visitForLoop(ForLoopTree tree, Void none) {
+            String until = String.valueOf(tree.getCondition());
+            boolean told = until.matches(".*[^<]< (\\w+\\.)*(names|families|clauses|count|written|saidCount)\\b.*");
+            boolean shown = until.matches(".*(< [A-Z]+|\\.length)\\b.*");
+            if (told && !shown && tree.getStatement().toString().matches("(?s).*\\w\\[.*")) {
+                refuse("a loop that shows no row's length: " + until);
+            }
+            return super.visitForLoop(tree, none);
+        }
+
         @Override
         public Void visitBinary(BinaryTree tree, Void none) {
             boolean text = tree.toString().contains("\"");

@@ -424,6 +424,14 @@ final class SentencesOfAsking {
         rests() = 2
         favours(0, 1, 1)
         rests() = 3
+        wants(0, 3, 9)
+        wants(1, 5, 9)
+        wants(2, 1, 9)
+        rests() = 3
+        name(1, 9)
+        rests() = 4
+        family(1, 1)
+        rests() = 5
 
         says terms: GLADDEST: the NAME a FAMILY wants most (above 0); of like ones the lowest; none.
         family(1, 1)
@@ -438,8 +446,13 @@ final class SentencesOfAsking {
         gladdest(0) = 1
         wants(0, 2, 2)
         gladdest(0) = 2
-        wants(0, 0, 99)
+        wants(0, 0, 98)
         gladdest(0) = 0
+        wants(0, 3, 99)
+        wants(0, 5, 99)
+        gladdest(0) = 0
+        name(1, 9)
+        gladdest(0) = 3
         """;
 
     static final String ODDS = """
